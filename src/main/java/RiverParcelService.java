@@ -1201,7 +1201,8 @@ public final class RiverParcelService {
             count = 0;
             furthest = 0;
             int start = 0;
-            for (int i = 0; i < MOST_COMMANDS; i++) {
+            // Behind the last command that has room, a semicolon still asks for one more.
+            for (int i = 0; i <= MOST_COMMANDS; i++) {
                 int end = endOfCommand(start);
                 if (end == NONE) {
                     return false;
@@ -1231,7 +1232,7 @@ public final class RiverParcelService {
                 int end = endOfForm(formOf(kind), start);
                 if (end != NONE) {
                     furthest = Math.max(furthest, end);
-                    if (end == length || input[end] == ';') {
+                    if (count < MOST_COMMANDS && (end == length || input[end] == ';')) {
                         kinds[count] = kind;
                         count++;
                         return end;
