@@ -938,13 +938,17 @@ public final class RiverParcelService {
             return ways.arrivalBySettling(network, parcel.place, parcel.destination, ready);
         }
 
-        int nextLinkOf(Parcel parcel) {
-            int goal = forecastOf(parcel);
+        // A way may come back to where it began: where later links are closed, it can be as early.
+        int nextLinkOf(Parcel waiting) {
+            int goal = ways.arrivalBySettling(network, waiting.place, waiting.destination, hour);
             if (goal == NEVER) {
                 return NONE;
             }
             for (int i = 0; i < network.count; i++) {
-                if (canStartOver(parcel, i) && arrivalOver(i, parcel.destination) == goal) {
+                Link link = network.links[i];
+                int start = hour + link.hours;
+                if (canStartOver(waiting, i)
+                        && ways.arrivalBySettling(network, link.to, waiting.destination, start) == goal) {
                     return i;
                 }
             }
@@ -1056,11 +1060,6 @@ public final class RiverParcelService {
 
         private boolean hasRoomFor(Parcel parcel, int link) {
             return weightOn(link) + parcel.weight <= CAPACITY;
-        }
-
-        private int arrivalOver(int link, int destination) {
-            Link first = network.links[link];
-            return ways.arrivalBySettling(network, first.to, destination, hour + first.hours);
         }
 
         private int putParcel(int from, int to, int weight, int stamps) {

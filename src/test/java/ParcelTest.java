@@ -245,6 +245,11 @@ public final class ParcelTest {
         x.addLink(0, 1, 5, 5);
         x.addLink(0, 1, 5, 5);
         CHECKS.due("21: all are empty", 0, x.busiestLink());
+        x.post(0, 1, 1, 1);
+        x.send(0, 1);
+        CHECKS.due("21: a weight of 1 is enough", 1, x.busiestLink());
+        x.undo();
+        x.undo();
         x.post(0, 1, 3, 1);
         x.post(0, 1, 5, 1);
         x.post(0, 1, 2, 1);
@@ -389,6 +394,8 @@ public final class ParcelTest {
         CHECKS.due("48: a third of 20", 20.0 / 3.0, x.meanStamps());
         x.takeBack(1);
         CHECKS.due("48: of those in the service", 0.0, x.meanStamps());
+        x.addStamps(0, 5);
+        CHECKS.due("48: the first one counts", 2.5, x.meanStamps());
     }
 
     private static void formattedParcels() {

@@ -40,6 +40,13 @@ public final class UndoTest {
         x.addLink(0, 2, 1, 1);
         undone(x, "addLink", 0);
         CHECKS.due("59: links", 2, x.linkCount());
+        x.addLink(0, 2, 1, 1);
+        x.block(2);
+        undone(x, "block", 1);
+        undone(x, "addLink", 0);
+        x.addLink(0, 2, 1, 1);
+        CHECKS.due("59: a new link in its stead is not blocked", false, x.isBlocked(2));
+        undone(x, "addLink", 0);
         x.block(1);
         undone(x, "block", 0);
         CHECKS.due("59: not blocked", false, x.isBlocked(1));

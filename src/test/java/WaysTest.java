@@ -23,8 +23,8 @@ public final class WaysTest {
 
     private static void bothArrivals(RiverParcelService x, int from, int to, int hour, int want) {
         String what = from + " to " + to + " at " + hour;
-        CHECKS.due("33: " + what, want, x.earliestArrival(from, to, hour));
         CHECKS.due("34: " + what, want, x.earliestArrivalByHours(from, to, hour));
+        CHECKS.due("33: " + what, want, x.earliestArrival(from, to, hour));
     }
 
     private static void noArrival(RiverParcelService x, int from, int to) {
