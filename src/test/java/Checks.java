@@ -6,13 +6,23 @@ final class Checks {
 
     private int checked = 0;
     private int wrong = 0;
+    private String about = "";
+
+    /** What the next answers are about; it is told with each of them that is not due. */
+    void about(String text) {
+        about = text + ": ";
+    }
+
+    int count() {
+        return checked;
+    }
 
     /** Checks one answer; boxed answers are compared by kind and value. */
     void due(String what, Object want, Object got) {
         checked++;
         if (!want.equals(got)) {
             wrong++;
-            System.out.println(what + " answered " + got + ", due is " + want);
+            System.out.println(about + what + " answered " + got + ", due is " + want);
         }
     }
 

@@ -19,17 +19,6 @@ public final class CommandTest {
         CHECKS.end();
     }
 
-    static void type(RiverParcelService service, String text) {
-        for (int i = 0; i < text.length(); i++) {
-            service.append(text.charAt(i));
-        }
-    }
-
-    private static int runOf(RiverParcelService service, String text) {
-        type(service, text);
-        return service.run();
-    }
-
     private static void appending() {
         RiverParcelService x = new RiverParcelService();
         CHECKS.refused("54: below the range", ARGUMENT, () -> x.append((char) 31));
@@ -50,33 +39,33 @@ public final class CommandTest {
 
     private static void everyCommand() {
         RiverParcelService x = new RiverParcelService();
-        CHECKS.due("55: place", 3, runOf(x, "place;place;place"));
+        CHECKS.due("55: place", 3, Scenes.run(x, "place;place;place"));
         CHECKS.due("55: places", 3, x.placeCount());
-        CHECKS.due("55: link", 2, runOf(x, "link 01 9/5;link 20 3/4"));
+        CHECKS.due("55: link", 2, Scenes.run(x, "link 01 9/5;link 20 3/4"));
         CHECKS.due("55: from", 2, x.linkFrom(1));
         CHECKS.due("55: to", 0, x.linkTo(1));
         CHECKS.due("55: hours", 3, x.travelTime(1));
         CHECKS.due("55: phase", false, x.isOpenAt(1, 4));
-        CHECKS.due("55: block", 1, runOf(x, "block 1"));
+        CHECKS.due("55: block", 1, Scenes.run(x, "block 1"));
         CHECKS.due("55: blocked", true, x.isBlocked(1));
-        CHECKS.due("55: open", 1, runOf(x, "open 1"));
+        CHECKS.due("55: open", 1, Scenes.run(x, "open 1"));
         CHECKS.due("55: opened", false, x.isBlocked(1));
-        CHECKS.due("55: post", 3, runOf(x, "post 01 7*12;post 20 3*1;post 10 1*5"));
+        CHECKS.due("55: post", 3, Scenes.run(x, "post 01 7*12;post 20 3*1;post 10 1*5"));
         CHECKS.due("55: its place", 2, x.placeOf(1));
         CHECKS.due("55: its destination", 0, x.destinationOf(1));
         CHECKS.due("55: its weight", 7, x.weightOf(0));
         CHECKS.due("55: its stamps", 12, x.stampsOf(0));
-        CHECKS.due("55: send", 1, runOf(x, "send 1 1"));
+        CHECKS.due("55: send", 1, Scenes.run(x, "send 1 1"));
         CHECKS.due("55: sent", 1, x.linkOf(1));
-        CHECKS.due("55: stamp", 1, runOf(x, "stamp 0 8"));
+        CHECKS.due("55: stamp", 1, Scenes.run(x, "stamp 0 8"));
         CHECKS.due("55: stamps", 20, x.stampsOf(0));
-        CHECKS.due("55: return", 1, runOf(x, "return 2"));
+        CHECKS.due("55: return", 1, Scenes.run(x, "return 2"));
         CHECKS.due("55: taken back", 1, x.takenBackTotal());
-        CHECKS.due("55: dispatch", 1, runOf(x, "dispatch"));
+        CHECKS.due("55: dispatch", 1, Scenes.run(x, "dispatch"));
         CHECKS.due("55: dispatched", 0, x.linkOf(0));
-        CHECKS.due("55: hours without a number", 1, runOf(x, "hours"));
+        CHECKS.due("55: hours without a number", 1, Scenes.run(x, "hours"));
         CHECKS.due("55: hour", 1, x.hour());
-        CHECKS.due("55: hours with a number", 2, runOf(x, "hours 12;hours"));
+        CHECKS.due("55: hours with a number", 2, Scenes.run(x, "hours 12;hours"));
         CHECKS.due("55: hour afterwards", 14, x.hour());
         CHECKS.due("55: delivered", 2, x.deliveredTotal());
         CHECKS.refused("56: no program was malformed", ELEMENT, x::errorPosition);
@@ -84,39 +73,39 @@ public final class CommandTest {
     }
 
     private static void numbers() {
-        RiverParcelService x = NetworkTest.withPlaces(2);
+        RiverParcelService x = Scenes.places(2);
         x.addLink(0, 1, 1, 0);
-        CHECKS.due("55: leading zeros", 2, runOf(x, "hours 007;block 000"));
+        CHECKS.due("55: leading zeros", 2, Scenes.run(x, "hours 007;block 000"));
         CHECKS.due("55: 7 hours", 7, x.hour());
-        CHECKS.due("55: three digits", 1, runOf(x, "hours 120"));
+        CHECKS.due("55: three digits", 1, Scenes.run(x, "hours 120"));
         CHECKS.due("55: 127 hours", 127, x.hour());
-        CHECKS.due("55: post with leading zeros", 1, runOf(x, "post 01 1*020"));
+        CHECKS.due("55: post with leading zeros", 1, Scenes.run(x, "post 01 1*020"));
         CHECKS.due("55: 20 stamps", 20, x.stampsOf(0));
-        RiverParcelService y = NetworkTest.withPlaces(2);
+        RiverParcelService y = Scenes.places(2);
         for (int i = 0; i < 101; i++) {
             y.post(0, 1, 1, i % 7);
             y.takeBack(i);
         }
         y.post(0, 1, 1, 3);
-        CHECKS.due("55: an id of three digits", 1, runOf(y, "stamp 101 10"));
+        CHECKS.due("55: an id of three digits", 1, Scenes.run(y, "stamp 101 10"));
         CHECKS.due("55: 13 stamps", 13, y.stampsOf(101));
     }
 
     private static void tenCommands() {
         RiverParcelService x = new RiverParcelService();
         String nine = "hours;hours;hours;hours;hours;hours;hours;hours;hours";
-        CHECKS.due("55: ten commands", 10, runOf(x, nine + ";place"));
+        CHECKS.due("55: ten commands", 10, Scenes.run(x, nine + ";place"));
         CHECKS.due("55: all were executed", 10, x.hour() + x.placeCount());
         CHECKS.due("58: a run is one change", 1, x.undoableCount());
-        type(x, nine + ";place;");
+        Scenes.type(x, nine + ";place;");
         CHECKS.refused("55: an eleventh is missing", ARGUMENT, x::run);
         CHECKS.due("56: at the length", 60, x.errorPosition());
         CHECKS.due("55: none was executed", 1, x.placeCount());
     }
 
     private static void malformed(String text, int position) {
-        RiverParcelService x = NetworkTest.withPlaces(2);
-        type(x, text);
+        RiverParcelService x = Scenes.places(2);
+        Scenes.type(x, text);
         CHECKS.refused("55: '" + text + "'", ARGUMENT, x::run);
         CHECKS.due("56: '" + text + "'", position, x.errorPosition());
         CHECKS.refused("57: '" + text + "'", ELEMENT, x::failedCommand);
@@ -199,7 +188,7 @@ public final class CommandTest {
     }
 
     private static void fails(RiverParcelService x, String text, int index) {
-        type(x, text);
+        Scenes.type(x, text);
         CHECKS.refused("55: '" + text + "'", STATE, x::run);
         CHECKS.due("57: '" + text + "'", index, x.failedCommand());
         CHECKS.due("55: '" + text + "' leaves the buffer empty", 1, x.append('p'));
@@ -208,7 +197,7 @@ public final class CommandTest {
     }
 
     private static void failures() {
-        RiverParcelService x = NetworkTest.withPlaces(2);
+        RiverParcelService x = Scenes.places(2);
         x.addLink(0, 1, 1, 0);
         x.post(0, 1, 9, 20);
         fails(x, "link 00 1/1", 0);
@@ -240,10 +229,10 @@ public final class CommandTest {
     }
 
     private static void allOrNone() {
-        RiverParcelService x = NetworkTest.withPlaces(2);
+        RiverParcelService x = Scenes.places(2);
         x.addLink(0, 1, 1, 5);
         x.post(0, 1, 2, 2);
-        type(x, "post 01 1*1;block 0;open 0;dispatch;hours 3;return 9");
+        Scenes.type(x, "post 01 1*1;block 0;open 0;dispatch;hours 3;return 9");
         CHECKS.refused("55: the last one fails", STATE, x::run);
         CHECKS.due("57: its index", 5, x.failedCommand());
         CHECKS.due("55: posted", 1, x.postedTotal());
@@ -252,10 +241,10 @@ public final class CommandTest {
         CHECKS.due("55: hour", 0, x.hour());
         CHECKS.due("55: undoable", 4, x.undoableCount());
         CHECKS.due("6: the next free id", 1, x.post(0, 1, 1, 1));
-        type(x, "place;x");
+        Scenes.type(x, "place;x");
         CHECKS.refused("55: malformed behind a good command", ARGUMENT, x::run);
         CHECKS.due("55: it was not executed", 2, x.placeCount());
-        CHECKS.due("55: dispatch and the hours", 3, runOf(x, "dispatch;hours;dispatch"));
+        CHECKS.due("55: dispatch and the hours", 3, Scenes.run(x, "dispatch;hours;dispatch"));
         CHECKS.due("55: delivered", 2, x.deliveredTotal());
     }
 }

@@ -21,14 +21,6 @@ public final class NetworkTest {
         CHECKS.end();
     }
 
-    static RiverParcelService withPlaces(int places) {
-        RiverParcelService service = new RiverParcelService();
-        for (int i = 0; i < places; i++) {
-            service.addPlace();
-        }
-        return service;
-    }
-
     private static void newObject() {
         RiverParcelService x = new RiverParcelService();
         CHECKS.due("1: places", 0, x.placeCount());
@@ -41,7 +33,7 @@ public final class NetworkTest {
         CHECKS.due("1: used stamps", 0, x.usedStamps());
         CHECKS.due("1: undoable", 0, x.undoableCount());
         CHECKS.due("1: consistent", true, x.isConsistent());
-        CHECKS.due("1: another object is not touched", 0, withPlaces(3).linkCount() + x.placeCount());
+        CHECKS.due("1: another object is not touched", 0, Scenes.places(3).linkCount() + x.placeCount());
     }
 
     private static void places() {
@@ -56,7 +48,7 @@ public final class NetworkTest {
     }
 
     private static void links() {
-        RiverParcelService x = withPlaces(3);
+        RiverParcelService x = Scenes.places(3);
         CHECKS.due("3: addLink", 0, x.addLink(0, 2, 1, 0));
         CHECKS.due("3: a second link between them", 1, x.addLink(0, 2, 9, 5));
         CHECKS.due("3: a link back", 2, x.addLink(2, 0, 4, 3));
@@ -70,7 +62,7 @@ public final class NetworkTest {
     }
 
     private static void wrongLinks() {
-        RiverParcelService x = withPlaces(2);
+        RiverParcelService x = Scenes.places(2);
         int[] badPlaces = {-1, 2, Integer.MIN_VALUE, Integer.MAX_VALUE};
         for (int bad : badPlaces) {
             CHECKS.refused("3: from " + bad, INDEX, () -> x.addLink(bad, 1, 1, 0));
@@ -86,7 +78,7 @@ public final class NetworkTest {
     }
 
     private static void twentyLinks() {
-        RiverParcelService x = withPlaces(2);
+        RiverParcelService x = Scenes.places(2);
         for (int i = 0; i < 20; i++) {
             CHECKS.due("3: link", i, x.addLink(i % 2, 1 - i % 2, 1 + i % 9, i % 6));
         }
@@ -98,7 +90,7 @@ public final class NetworkTest {
     }
 
     private static void blocking() {
-        RiverParcelService x = withPlaces(2);
+        RiverParcelService x = Scenes.places(2);
         x.addLink(0, 1, 1, 0);
         x.addLink(0, 1, 2, 0);
         CHECKS.due("18: not blocked", false, x.isBlocked(1));
@@ -120,7 +112,7 @@ public final class NetworkTest {
     }
 
     private static void blockingUnderParcels() {
-        RiverParcelService x = withPlaces(2);
+        RiverParcelService x = Scenes.places(2);
         x.addLink(0, 1, 3, 5);
         x.post(0, 1, 4, 1);
         x.send(0, 0);
@@ -132,7 +124,7 @@ public final class NetworkTest {
     }
 
     private static void linkQuestions() {
-        RiverParcelService x = withPlaces(2);
+        RiverParcelService x = Scenes.places(2);
         x.addLink(0, 1, 1, 0);
         int[] badLinks = {-1, 1, 20, Integer.MIN_VALUE, Integer.MAX_VALUE};
         for (int bad : badLinks) {
@@ -148,7 +140,7 @@ public final class NetworkTest {
     }
 
     private static void openHours() {
-        RiverParcelService x = withPlaces(2);
+        RiverParcelService x = Scenes.places(2);
         for (int phase = 0; phase < 6; phase++) {
             x.addLink(0, 1, 1, phase);
         }
@@ -170,7 +162,7 @@ public final class NetworkTest {
     }
 
     private static void degrees() {
-        RiverParcelService x = withPlaces(4);
+        RiverParcelService x = Scenes.places(4);
         x.addLink(0, 1, 1, 0);
         x.addLink(1, 0, 1, 0);
         x.addLink(1, 2, 1, 0);
@@ -185,7 +177,7 @@ public final class NetworkTest {
     }
 
     private static void shares() {
-        RiverParcelService x = withPlaces(2);
+        RiverParcelService x = Scenes.places(2);
         CHECKS.refused("49: no links", ArithmeticException.class, x::blockedShare);
         x.addLink(0, 1, 1, 0);
         CHECKS.due("49: none blocked", 0.0f, x.blockedShare());
@@ -199,43 +191,30 @@ public final class NetworkTest {
     }
 
     private static void formattedLinks() {
-        RiverParcelService x = withPlaces(5);
+        RiverParcelService x = Scenes.places(5);
         for (int i = 0; i < 3; i++) {
             x.addLink(1, 0, 1, 0);
         }
         x.addLink(0, 4, 5, 2);
         x.post(0, 4, 7, 1);
         CHECKS.due("52: length", 11, x.formatLink(3));
-        CHECKS.due("52: no weight", "3(0-4) 5h/2", lineOf(x));
+        CHECKS.due("52: no weight", "3(0-4) 5h/2", Scenes.line(x));
         x.send(0, 3);
         CHECKS.due("52: the document's example", 14, x.formatLink(3));
-        CHECKS.due("52: weight", "3(0-4) 5h/2 w7", lineOf(x));
+        CHECKS.due("52: weight", "3(0-4) 5h/2 w7", Scenes.line(x));
         x.block(3);
         x.formatLink(3);
-        CHECKS.due("52: blocked and weight", "3(0-4) 5h/2 x w7", lineOf(x));
+        CHECKS.due("52: blocked and weight", "3(0-4) 5h/2 x w7", Scenes.line(x));
         x.block(0);
         x.formatLink(0);
-        CHECKS.due("52: blocked, a shorter line", "0(1-0) 1h/0 x", lineOf(x));
+        CHECKS.due("52: blocked, a shorter line", "0(1-0) 1h/0 x", Scenes.line(x));
         for (int i = 4; i < 20; i++) {
             x.addLink(2, 3, 9, 5);
         }
         x.formatLink(19);
-        CHECKS.due("52: two digits", "19(2-3) 9h/5", lineOf(x));
+        CHECKS.due("52: two digits", "19(2-3) 9h/5", Scenes.line(x));
         CHECKS.refused("52: no such link", INDEX, () -> x.formatLink(20));
-        CHECKS.due("52: the line stays", "19(2-3) 9h/5", lineOf(x));
-    }
-
-    /** The line as lineChar tells it, up to the first index that is refused. */
-    static String lineOf(RiverParcelService service) {
-        StringBuilder text = new StringBuilder();
-        for (int i = 0; i < 100; i++) {
-            try {
-                text.append(service.lineChar(i));
-            } catch (IndexOutOfBoundsException end) {
-                return text.toString();
-            }
-        }
-        return text.toString();
+        CHECKS.due("52: the line stays", "19(2-3) 9h/5", Scenes.line(x));
     }
 
     private static void hours() {

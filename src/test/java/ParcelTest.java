@@ -31,15 +31,8 @@ public final class ParcelTest {
         CHECKS.end();
     }
 
-    private static RiverParcelService river() {
-        RiverParcelService service = NetworkTest.withPlaces(3);
-        service.addLink(0, 1, 2, 5);
-        service.addLink(1, 2, 3, 5);
-        return service;
-    }
-
     private static void posting() {
-        RiverParcelService x = river();
+        RiverParcelService x = Scenes.river();
         CHECKS.due("6: post", 0, x.post(0, 2, 1, 0));
         CHECKS.due("6: post again", 1, x.post(2, 1, 9, 20));
         CHECKS.due("29: destination", 1, x.destinationOf(1));
@@ -56,7 +49,7 @@ public final class ParcelTest {
     }
 
     private static void wrongPosts() {
-        RiverParcelService x = river();
+        RiverParcelService x = Scenes.river();
         int[] badPlaces = {-1, 3, Integer.MIN_VALUE, Integer.MAX_VALUE};
         for (int bad : badPlaces) {
             CHECKS.refused("6: from " + bad, INDEX, () -> x.post(bad, 1, 1, 0));
@@ -71,7 +64,7 @@ public final class ParcelTest {
     }
 
     private static void twelveParcels() {
-        RiverParcelService x = river();
+        RiverParcelService x = Scenes.river();
         for (int i = 0; i < 12; i++) {
             CHECKS.due("6: post", i, x.post(0, 2, 1, 1));
         }
@@ -85,7 +78,7 @@ public final class ParcelTest {
     }
 
     private static void sending() {
-        RiverParcelService x = river();
+        RiverParcelService x = Scenes.river();
         x.post(0, 2, 5, 2);
         x.pass(1);
         CHECKS.due("39: canSend", true, x.canSend(0, 0));
@@ -107,7 +100,7 @@ public final class ParcelTest {
     }
 
     private static void refusedSends() {
-        RiverParcelService x = river();
+        RiverParcelService x = Scenes.river();
         x.post(0, 2, 5, 1);
         x.post(0, 2, 5, 0);
         CHECKS.refused("7: no such parcel", ELEMENT, () -> x.send(2, 0));
@@ -133,7 +126,7 @@ public final class ParcelTest {
     }
 
     private static void closedAndFullLinks() {
-        RiverParcelService x = NetworkTest.withPlaces(2);
+        RiverParcelService x = Scenes.places(2);
         x.addLink(0, 1, 9, 0);
         for (int i = 0; i < 4; i++) {
             x.post(0, 1, i == 2 ? 3 : 4, 1);
@@ -160,7 +153,7 @@ public final class ParcelTest {
     }
 
     private static void stamps() {
-        RiverParcelService x = river();
+        RiverParcelService x = Scenes.river();
         x.post(0, 2, 5, 0);
         CHECKS.due("8: addStamps", 1, x.addStamps(0, 1));
         CHECKS.due("8: up to 20", 20, x.addStamps(0, 19));
@@ -179,7 +172,7 @@ public final class ParcelTest {
     }
 
     private static void takingBack() {
-        RiverParcelService x = river();
+        RiverParcelService x = Scenes.river();
         x.post(0, 2, 5, 7);
         x.post(0, 2, 5, 8);
         x.post(0, 2, 5, 9);
@@ -198,7 +191,7 @@ public final class ParcelTest {
     }
 
     private static void dispatching() {
-        RiverParcelService x = NetworkTest.withPlaces(3);
+        RiverParcelService x = Scenes.places(3);
         CHECKS.due("10: nothing to send", 0, x.dispatch());
         x.addLink(0, 1, 2, 5);
         x.addLink(0, 2, 9, 5);
@@ -226,7 +219,7 @@ public final class ParcelTest {
     }
 
     private static void passing() {
-        RiverParcelService x = river();
+        RiverParcelService x = Scenes.river();
         x.post(0, 1, 3, 1);
         x.post(0, 2, 3, 1);
         x.post(0, 1, 3, 1);
@@ -239,7 +232,7 @@ public final class ParcelTest {
     }
 
     private static void loads() {
-        RiverParcelService x = NetworkTest.withPlaces(2);
+        RiverParcelService x = Scenes.places(2);
         CHECKS.refused("21: no links", ELEMENT, x::busiestLink);
         x.addLink(0, 1, 5, 5);
         x.addLink(0, 1, 5, 5);
@@ -264,7 +257,7 @@ public final class ParcelTest {
     }
 
     private static void positions() {
-        RiverParcelService x = river();
+        RiverParcelService x = Scenes.river();
         CHECKS.refused("24: no parcels", INDEX, () -> x.idAt(0));
         x.post(0, 2, 5, 1);
         x.post(0, 2, 5, 1);
@@ -287,7 +280,7 @@ public final class ParcelTest {
     }
 
     private static void states() {
-        RiverParcelService x = river();
+        RiverParcelService x = Scenes.river();
         x.post(0, 2, 5, 1);
         CHECKS.refused("27: waiting", ELEMENT, () -> x.linkOf(0));
         CHECKS.refused("28: waiting", ELEMENT, () -> x.arrivalOf(0));
@@ -297,7 +290,7 @@ public final class ParcelTest {
     }
 
     private static void unknownIds() {
-        RiverParcelService x = river();
+        RiverParcelService x = Scenes.river();
         x.post(0, 1, 5, 1);
         x.post(0, 1, 5, 1);
         x.takeBack(0);
@@ -319,7 +312,7 @@ public final class ParcelTest {
     }
 
     private static void arrivals() {
-        RiverParcelService x = river();
+        RiverParcelService x = Scenes.river();
         x.post(0, 2, 2, 1);
         x.post(1, 2, 2, 1);
         x.post(0, 2, 2, 1);
@@ -337,7 +330,7 @@ public final class ParcelTest {
     }
 
     private static void deliveriesOnACopy() {
-        RiverParcelService x = river();
+        RiverParcelService x = Scenes.river();
         x.post(0, 2, 8, 2);
         x.post(0, 2, 8, 2);
         x.post(0, 2, 1, 1);
@@ -364,7 +357,7 @@ public final class ParcelTest {
     }
 
     private static void totals() {
-        RiverParcelService x = river();
+        RiverParcelService x = Scenes.river();
         x.post(0, 1, 1, 1);
         x.post(0, 1, 1, 1);
         x.post(0, 1, 1, 1);
@@ -385,7 +378,7 @@ public final class ParcelTest {
     }
 
     private static void means() {
-        RiverParcelService x = river();
+        RiverParcelService x = Scenes.river();
         CHECKS.refused("48: no parcels", ArithmeticException.class, x::meanStamps);
         x.post(0, 1, 1, 0);
         CHECKS.due("48: none", 0.0, x.meanStamps());
@@ -399,7 +392,7 @@ public final class ParcelTest {
     }
 
     private static void formattedParcels() {
-        RiverParcelService x = NetworkTest.withPlaces(5);
+        RiverParcelService x = Scenes.places(5);
         CHECKS.refused("53: the line is empty at first", INDEX, () -> x.lineChar(0));
         for (int i = 0; i < 8; i++) {
             x.addLink(0, 4, 9, 5);
@@ -410,16 +403,16 @@ public final class ParcelTest {
         }
         x.post(0, 4, 5, 4);
         CHECKS.due("51: length", 13, x.formatParcel(12));
-        CHECKS.due("51: waiting", "#12 5*4 @0 >4", NetworkTest.lineOf(x));
+        CHECKS.due("51: waiting", "#12 5*4 @0 >4", Scenes.line(x));
         x.pass(12);
         x.send(12, 7);
         CHECKS.due("51: length of the travelling one", 16, x.formatParcel(12));
-        CHECKS.due("51: travelling", "#12 5*3 ~7:21 >4", NetworkTest.lineOf(x));
+        CHECKS.due("51: travelling", "#12 5*3 ~7:21 >4", Scenes.line(x));
         x.post(3, 1, 9, 20);
         CHECKS.due("51: a shorter line", 14, x.formatParcel(13));
-        CHECKS.due("51: the line is replaced", "#13 9*20 @3 >1", NetworkTest.lineOf(x));
+        CHECKS.due("51: the line is replaced", "#13 9*20 @3 >1", Scenes.line(x));
         CHECKS.refused("51: no such parcel", ELEMENT, () -> x.formatParcel(11));
-        CHECKS.due("51: the line stays", "#13 9*20 @3 >1", NetworkTest.lineOf(x));
+        CHECKS.due("51: the line stays", "#13 9*20 @3 >1", Scenes.line(x));
         CHECKS.due("53: first", '#', x.lineChar(0));
         CHECKS.due("53: last", '1', x.lineChar(13));
         int[] badIndexes = {-1, 14, 16, Integer.MIN_VALUE, Integer.MAX_VALUE};

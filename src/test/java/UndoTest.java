@@ -23,7 +23,7 @@ public final class UndoTest {
     }
 
     private static RiverParcelService freshRiver() {
-        RiverParcelService x = NetworkTest.withPlaces(3);
+        RiverParcelService x = Scenes.places(3);
         x.addLink(0, 1, 2, 5);
         x.addLink(1, 2, 3, 5);
         x.post(0, 2, 4, 3);
@@ -114,7 +114,7 @@ public final class UndoTest {
         Checks.outcomeOf(() -> x.block(7));
         Checks.outcomeOf(() -> x.send(0, 1));
         Checks.outcomeOf(x::run);
-        CommandTest.type(x, "hours 0");
+        Scenes.type(x, "hours 0");
         Checks.outcomeOf(x::run);
         CHECKS.due("58: a refused call is no change", 0, x.undoableCount());
     }
@@ -152,7 +152,7 @@ public final class UndoTest {
 
     private static void undoneRun() {
         RiverParcelService x = freshRiver();
-        CommandTest.type(x, "dispatch;hours 2;dispatch;place");
+        Scenes.type(x, "dispatch;hours 2;dispatch;place");
         x.run();
         undone(x, "run", 0);
         CHECKS.due("59: hour", 0, x.hour());
@@ -163,18 +163,18 @@ public final class UndoTest {
 
     private static void whatUndoLeaves() {
         RiverParcelService x = freshRiver();
-        CommandTest.type(x, "block 5");
+        Scenes.type(x, "block 5");
         Checks.outcomeOf(x::run);
-        CommandTest.type(x, "plan");
+        Scenes.type(x, "plan");
         Checks.outcomeOf(x::run);
         x.pass(4);
-        CommandTest.type(x, "hour");
+        Scenes.type(x, "hour");
         x.formatParcel(0);
         x.save();
         x.undo();
         CHECKS.due("59: the failed command stays", 0, x.failedCommand());
         CHECKS.due("59: the error position stays", 3, x.errorPosition());
-        CHECKS.due("59: the line stays", "#0 4*3 @0 >2", NetworkTest.lineOf(x));
+        CHECKS.due("59: the line stays", "#0 4*3 @0 >2", Scenes.line(x));
         CHECKS.due("59: the buffer stays", 5, x.append('s'));
         CHECKS.due("59: and is a program", 1, x.run());
         CHECKS.due("12: one hour", 1, x.hour());
@@ -222,16 +222,16 @@ public final class UndoTest {
 
     private static void whatRestoreLeaves() {
         RiverParcelService x = freshRiver();
-        CommandTest.type(x, "hours;block 5");
+        Scenes.type(x, "hours;block 5");
         Checks.outcomeOf(x::run);
-        CommandTest.type(x, "p");
+        Scenes.type(x, "p");
         Checks.outcomeOf(x::run);
-        CommandTest.type(x, "plac");
+        Scenes.type(x, "plac");
         x.formatLink(0);
         x.restore();
         CHECKS.due("61: the failed command stays", 1, x.failedCommand());
         CHECKS.due("61: the error position stays", 1, x.errorPosition());
-        CHECKS.due("61: the line stays", "0(0-1) 2h/5", NetworkTest.lineOf(x));
+        CHECKS.due("61: the line stays", "0(0-1) 2h/5", Scenes.line(x));
         CHECKS.due("61: the buffer stays", 5, x.append('e'));
         CHECKS.due("61: and is a program", 1, x.run());
         CHECKS.due("61: a change again", 1, x.undoableCount());

@@ -33,7 +33,7 @@ public final class WaysTest {
     }
 
     private static void arrivals() {
-        RiverParcelService x = NetworkTest.withPlaces(4);
+        RiverParcelService x = Scenes.places(4);
         x.addLink(0, 1, 2, 0);
         x.addLink(1, 2, 3, 3);
         x.addLink(0, 2, 9, 1);
@@ -63,7 +63,7 @@ public final class WaysTest {
 
     /** Every place but the first is reached at a closed hour, so the way takes its 80 hours. */
     private static void longestWay() {
-        RiverParcelService x = NetworkTest.withPlaces(9);
+        RiverParcelService x = Scenes.places(9);
         for (int i = 0; i < 8; i++) {
             x.addLink(i, i + 1, 9, i * 10 % 6);
         }
@@ -77,7 +77,7 @@ public final class WaysTest {
     }
 
     private static void wrongArrivals() {
-        RiverParcelService x = NetworkTest.withPlaces(2);
+        RiverParcelService x = Scenes.places(2);
         int[] badPlaces = {-1, 2, Integer.MIN_VALUE, Integer.MAX_VALUE};
         for (int bad : badPlaces) {
             CHECKS.refused("33: from " + bad, INDEX, () -> x.earliestArrival(bad, 0, -1));
@@ -97,7 +97,7 @@ public final class WaysTest {
     }
 
     private static void fewestLinks() {
-        RiverParcelService x = NetworkTest.withPlaces(4);
+        RiverParcelService x = Scenes.places(4);
         x.addLink(2, 3, 1, 0);
         x.addLink(1, 2, 1, 0);
         x.addLink(0, 1, 1, 0);
@@ -115,7 +115,7 @@ public final class WaysTest {
     }
 
     private static void reachablePlaces() {
-        RiverParcelService x = NetworkTest.withPlaces(4);
+        RiverParcelService x = Scenes.places(4);
         CHECKS.due("36: no links", 1, x.reachable(0));
         x.addLink(0, 1, 1, 0);
         x.addLink(0, 1, 1, 0);
@@ -133,7 +133,7 @@ public final class WaysTest {
     }
 
     private static void forecasts() {
-        RiverParcelService x = NetworkTest.withPlaces(3);
+        RiverParcelService x = Scenes.places(3);
         x.addLink(0, 1, 2, 0);
         x.addLink(1, 2, 3, 3);
         x.post(0, 2, 1, 0);
@@ -156,7 +156,7 @@ public final class WaysTest {
     }
 
     private static void nextLinks() {
-        RiverParcelService x = NetworkTest.withPlaces(3);
+        RiverParcelService x = Scenes.places(3);
         x.addLink(0, 2, 5, 0);
         x.addLink(0, 1, 2, 5);
         x.addLink(1, 2, 2, 5);
@@ -188,7 +188,7 @@ public final class WaysTest {
      * when the direct way comes to it: a way is any way with which one could leave now.
      */
     private static void nextLinkThatComesBack() {
-        RiverParcelService x = NetworkTest.withPlaces(4);
+        RiverParcelService x = Scenes.places(4);
         x.addLink(0, 1, 1, 5);
         x.addLink(1, 0, 1, 5);
         x.addLink(0, 2, 1, 0);
@@ -199,7 +199,7 @@ public final class WaysTest {
     }
 
     private static void missingStamps() {
-        RiverParcelService x = NetworkTest.withPlaces(4);
+        RiverParcelService x = Scenes.places(4);
         x.addLink(0, 1, 1, 5);
         x.addLink(1, 2, 1, 5);
         x.addLink(2, 3, 1, 5);
@@ -221,7 +221,7 @@ public final class WaysTest {
     }
 
     private static void ranks() {
-        RiverParcelService x = NetworkTest.withPlaces(3);
+        RiverParcelService x = Scenes.places(3);
         CHECKS.refused("41: no parcels", ELEMENT, () -> x.parcelByForecast(0));
         x.addLink(0, 1, 2, 5);
         x.addLink(0, 2, 1, 5);
